@@ -4,6 +4,7 @@ import java.util.Arrays;
 public final class StoneWorks {
     public static final int NONE = -1000000, BAD = -1000001, STATE = -1000002, FULL = -1000003;
 
+    private static final int NOT_REFUSED = 0;
     private static final int FINDINGS = -1000010;
     private static final int NO_FINDING = 0;
     private static final int FOUND_NULL = 1;
@@ -249,12 +250,9 @@ public final class StoneWorks {
         if (!Sheets.isNumber(sheet) || !within(n, 1, Hours.MOST) || !within(what, 0, 1)) {
             return BAD;
         }
-        int finding = sheets.findingAt(sheet, i, 2 * n);
-        if (finding != NO_FINDING) {
-            return found(finding);
-        }
-        if (!hours.read(sheets, sheet, i, n)) {
-            return BAD;
+        int refusal = readHours(sheet, i, n);
+        if (refusal != NOT_REFUSED) {
+            return refusal;
         }
         return fine(what == 0 ? hours.harm(wall.blockSize(), wall.measure(SLOPE))
                 : hours.over(wall.measure(CREST)));
@@ -265,14 +263,19 @@ public final class StoneWorks {
                 || !within(over, 0, MOST_TOLD) || !within(what, 0, 2)) {
             return BAD;
         }
+        int refusal = readHours(sheet, i, n);
+        if (refusal != NOT_REFUSED) {
+            return refusal;
+        }
+        return fine(leastDesign(harm, over, what));
+    }
+
+    private int readHours(int sheet, int i, int n) {
         int finding = sheets.findingAt(sheet, i, 2 * n);
         if (finding != NO_FINDING) {
             return found(finding);
         }
-        if (!hours.read(sheets, sheet, i, n)) {
-            return BAD;
-        }
-        return fine(leastDesign(harm, over, what));
+        return hours.read(sheets, sheet, i, n) ? NOT_REFUSED : BAD;
     }
 
     // HARM hangs on the WEIGHT alone, OVER on the CREST alone, and COST never falls as either

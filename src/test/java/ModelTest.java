@@ -37,9 +37,12 @@ public final class ModelTest {
     }
 
     private void run() {
-        while (calls < CALLS - 110 && !check.failed()) {
+        while (calls < CALLS - 130 && !check.failed()) {
             if (random.nextInt(12) == 0) {
                 fillSheet();
+            }
+            if (random.nextInt(60) == 0) {
+                buildRows(upTo(8));
             }
             String name = NAMES[random.nextInt(NAMES.length)];
             call(name, arguments(name));
@@ -150,6 +153,15 @@ public final class ModelTest {
             case 1 -> fillWith(sheet, 2 + upTo(24), 20, 20);
             case 2 -> fillWith(sheet, 2 + 2 * upTo(20), 200, 100);
             default -> fillWith(sheet, 2 + upTo(48), 3, 3);
+        }
+    }
+
+    /** Random laying alone would hardly come to the upper rows. */
+    private void buildRows(int rows) {
+        for (int row = 0; row < rows; row++) {
+            for (int place = 0; place < 12 - row; place++) {
+                call("lay", row, place);
+            }
         }
     }
 

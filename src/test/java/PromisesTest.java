@@ -302,6 +302,19 @@ public final class PromisesTest {
         x.wall(2, 60);
         x.wall(3, 1000);
         due("11 most", x.volume(NONE), 1000 * (50 * 100 + 12 * 5050));
+        checkThreeLayers();
+    }
+
+    private static void checkThreeLayers() {
+        StoneWorks x = new StoneWorks();
+        x.layer(2, 6000);
+        x.layer(1, 500);
+        x.layer(3, 20);
+        due("10 without three", x.wide(3, 0), 6 + 60 - 30);
+        int[] volumes = {2010, 900, 2250, 2340};
+        for (int layer = 0; layer < volumes.length; layer++) {
+            due("11 of three, " + layer, x.volume(layer), volumes[layer]);
+        }
     }
 
     private static void p12Shared() {
@@ -394,6 +407,8 @@ public final class PromisesTest {
         due("14 place -1", x.lift(0, -1), BAD);
         buildAll(x);
         due("14 all lie", x.count(4), 68);
+        due("14 row 6 under row 7, right", x.lift(6, 5), STATE);
+        due("14 row 6 under row 7, left", x.lift(6, 0), STATE);
         due("14 topmost", x.lift(7, 4), 1);
         due("14 last of row 6", x.lift(6, 5), 1);
     }
@@ -544,6 +559,7 @@ public final class PromisesTest {
         due("19 none is high enough", x.design(1, 0, 1, 1000000, 0, 0), NONE);
         due("19 CREST 100", x.design(1, 0, 1, 1000000, 1600, 0), 100);
         due("19 not 99", x.design(1, 0, 1, 1000000, 1599, 0), NONE);
+        checkDesignSizes(x);
         due("19 sheet 8", x.design(8, 0, 1, 0, 0, 0), BAD);
         due("19 n 0", x.design(2, 0, 0, 0, 0, 0), BAD);
         due("19 n 49", x.design(2, 0, 49, 0, 0, 0), BAD);
@@ -555,6 +571,17 @@ public final class PromisesTest {
         due("19 what 3", x.design(2, 0, 1, 0, 0, 3), BAD);
         due("19 missing", x.design(2, 0, 1, 0, 0, 0), NULL);
         due("19 beyond", x.design(0, 1, 4, 0, 0, 0), PLACE);
+    }
+
+    private static void checkDesignSizes(StoneWorks x) {
+        x.wall(2, 10);
+        fill(x, 3, 1, 133, 0, 136, 0, 160, 0, 8, 0);
+        due("19 39 at most", x.design(3, 0, 1, 0, 1000000, 1), 59319);
+        due("19 40 is none of them", x.design(3, 2, 1, 0, 1000000, 1), NONE);
+        due("19 as much HARM as told", x.design(3, 4, 1, 10, 1000000, 1), 59319);
+        due("19 less HARM told", x.design(3, 4, 1, 9, 1000000, 1), NONE);
+        due("19 1 at least", x.design(3, 6, 1, 10, 1000000, 1), 1);
+        due("19 not 1, but 2", x.design(3, 6, 1, 9, 1000000, 1), 8);
     }
 
     private static void p20Survey() {
@@ -576,6 +603,9 @@ public final class PromisesTest {
         due("20 1 by 6", x.survey(0, 2, 1, 6, 1, 2), 2);
         fill(x, 2, 0, 9, 9, 0, 0, 9, 9);
         due("20 no row goes on in the next", x.survey(0, 2, 3, 2, 1, 2), 2);
+        fill(x, 2, 0, 0, 9, 0, 0, 0, 0);
+        due("20 up to the row ahead", x.survey(0, 2, 3, 2, 1, 3), 5);
+        due("20 it is one patch", x.survey(0, 2, 3, 2, 1, 2), 1);
         due("20 none", x.survey(0, 0, 3, 2, 1, 3), 0);
         due("20 no patches", x.survey(0, 0, 3, 2, 1, 2), 0);
         fill(x, 3, 2, MAX, MIN);
@@ -615,6 +645,7 @@ public final class PromisesTest {
         due("21 bounces", x.wave(5, 4, 5, 1000, 1, 5, 2), 216);
         due("21 cut each time", x.wave(1, 1, 3, 9, 1, 0, 0), 9);
         due("21 cut each time, not at the end", x.wave(1, 1, 9, 7, 1, 0, 0), 7 + 4 + 4 * 0);
+        due("21 the least size", x.wave(5, 4, 10, 1, 0, 0, 0), 1);
         due("21 most", x.wave(50, 50, 10, 1000000, 4, 25, 25), 238557);
         due("21 w 0", x.wave(0, 4, 5, 1000, 1, 0, 0), BAD);
         due("21 w 51", x.wave(51, 4, 5, 1000, 1, 0, 0), BAD);
@@ -639,6 +670,7 @@ public final class PromisesTest {
         due("22 from i on", x.calm(5, 4, 5, 0, 4, 2), 1);
         due("22 one", x.calm(5, 4, 5, 0, 0, 1), 0);
         due("22 of several the first", x.calm(5, 4, 0, 0, 2, 3), 0);
+        checkCalmImages(x);
         due("22 x above w", x.calm(4, 4, 5, 0, 0, 4), BAD);
         due("22 y above h", x.calm(5, 3, 5, 0, 0, 4), BAD);
         due("22 only places told", x.calm(4, 3, 5, 0, 0, 1), 0);
@@ -659,6 +691,15 @@ public final class PromisesTest {
         due("22 i -1", x.calm(5, 4, 5, 0, -1, 1), PLACE);
         x.sheet(2, 0, 100);
         due("22 n 50", x.calm(5, 4, 5, 2, 0, 50), 0);
+    }
+
+    /** Places of which images of k 1, or of k 3, would make the other one the calmest. */
+    private static void checkCalmImages(StoneWorks x) {
+        fill(x, 3, 0, 2, 1, 0, 2, 0, 0);
+        due("22 no more than k 2", x.calm(2, 5, 10, 3, 0, 3), 0);
+        due("22 no less than k 2", x.calm(2, 6, 10, 3, 0, 3), 1);
+        fill(x, 3, 0, 0, 0, 1, 1, 0, 1, 5, 4, 2, 2);
+        due("22 two ITEMS each", x.calm(5, 4, 5, 3, 0, 5), 3);
     }
 
     private static void p23Kind() {
