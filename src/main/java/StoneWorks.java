@@ -42,7 +42,7 @@ public final class StoneWorks {
     private final Pile pile = new Pile();
     private final Hours hours = new Hours();
     private final Surveys surveys = new Surveys();
-    private final Asks asks = new Asks(wall);
+    private final Asks asks = new Asks();
     private int status = NO_FINDING;
 
     public StoneWorks() {
@@ -387,7 +387,7 @@ public final class StoneWorks {
             return BAD;
         }
         asks.forget();
-        return what == 0 ? asks.worth(layer) : asks.mark(layer);
+        return what == 0 ? asks.worth(wall, layer) : asks.mark(wall, layer);
     }
 
     public int trace(int i) {
@@ -1060,13 +1060,8 @@ public final class StoneWorks {
     private static final class Asks {
         private static final int MOST_TRACED = 16;
 
-        private final Wall wall;
         private final int[] trace = new int[MOST_TRACED];
         private int traced = 0;
-
-        Asks(Wall wall) {
-            this.wall = wall;
-        }
 
         void forget() {
             traced = 0;
@@ -1083,70 +1078,70 @@ public final class StoneWorks {
             }
         }
 
-        int worth(int layer) {
+        int worth(Wall wall, int layer) {
             switch (wall.kindOf(layer)) {
                 case ARMOUR:
-                    return armourWorth(layer);
+                    return armourWorth(wall, layer);
                 case COVER:
-                    return coverWorth(layer);
+                    return coverWorth(wall, layer);
                 case LOOSE:
-                    return looseWorth(layer);
+                    return looseWorth(wall, layer);
                 default:
-                    return lentWorth(layer);
+                    return lentWorth(wall, layer);
             }
         }
 
-        int mark(int layer) {
+        int mark(Wall wall, int layer) {
             switch (wall.kindOf(layer)) {
                 case ARMOUR:
-                    return armourMark(layer);
+                    return armourMark(wall, layer);
                 case COVER:
-                    return coverMark(layer);
+                    return coverMark(wall, layer);
                 case UNDER:
-                    return underMark(layer);
+                    return underMark(wall, layer);
                 default:
-                    return lentMark(layer);
+                    return lentMark(wall, layer);
             }
         }
 
-        private int lentWorth(int layer) {
+        private int lentWorth(Wall wall, int layer) {
             begin(10);
             return wall.thickOf(layer);
         }
 
-        private int coverWorth(int layer) {
+        private int coverWorth(Wall wall, int layer) {
             begin(11);
-            return lentWorth(layer) + wall.measure(SLOPE);
+            return lentWorth(wall, layer) + wall.measure(SLOPE);
         }
 
-        private int armourWorth(int layer) {
+        private int armourWorth(Wall wall, int layer) {
             begin(12);
-            return coverWorth(layer) + armourMark(layer);
+            return coverWorth(wall, layer) + armourMark(wall, layer);
         }
 
-        private int looseWorth(int layer) {
+        private int looseWorth(Wall wall, int layer) {
             begin(13);
-            return lentWorth(layer) - lentMark(layer);
+            return lentWorth(wall, layer) - lentMark(wall, layer);
         }
 
-        private int lentMark(int layer) {
+        private int lentMark(Wall wall, int layer) {
             begin(20);
             return wall.weightOf(layer);
         }
 
-        private int coverMark(int layer) {
+        private int coverMark(Wall wall, int layer) {
             begin(21);
-            return lentMark(layer) / 10;
+            return lentMark(wall, layer) / 10;
         }
 
-        private int armourMark(int layer) {
+        private int armourMark(Wall wall, int layer) {
             begin(22);
-            return coverMark(layer) + 1000;
+            return coverMark(wall, layer) + 1000;
         }
 
-        private int underMark(int layer) {
+        private int underMark(Wall wall, int layer) {
             begin(23);
-            return lentMark(layer) + lentWorth(layer);
+            return lentMark(wall, layer) + lentWorth(wall, layer);
         }
     }
 }
