@@ -146,6 +146,11 @@ public final class BoundariesTest extends BySentence {
         due("100", x.copy(0, 0, 1, 0, 100), 100);
         due("all came", hasItems(x, 1, repeated(7, 100)));
         due("all stay", hasItems(x, 0, repeated(7, 100)));
+        fill(x, 5, 2, 1, 2, 3);
+        fill(x, 6, 2, 4, 5, 6);
+        due("from SHEET 6 to 5", x.copy(6, 1, 5, 0, 2), 2);
+        due("they came to 5", hasItems(x, 5, 5, 6, 3));
+        due("they stay in 6", hasItems(x, 6, 4, 5, 6));
         says("BAD: SHEETS;");
         bounds(StoneWorks::new, 0, 0, 7, "copy", 0, 0, 0, 0, 1);
         bounds(StoneWorks::new, 2, 0, 7, "copy", 0, 0, 0, 0, 1);

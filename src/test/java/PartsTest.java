@@ -296,8 +296,9 @@ public final class PartsTest extends BySentence {
             StoneWorks x = withItems(1, 200, 0);
             x.wall(2, 1);
             x.layer(1, weights[n]);
-            x.layer(1, 1);
             due("WEIGHT " + weights[n], x.storm(0, 0, 1, 0), harmOf(20000 / (sizes[n] + 10)));
+            x.layer(1, 60000);
+            due("LAYER 1 tells nothing", x.storm(0, 0, 1, 0), harmOf(20000 / (sizes[n] + 10)));
         }
         StoneWorks x = withItems(1, 200, 0);
         x.wall(2, 60);
@@ -454,7 +455,10 @@ public final class PartsTest extends BySentence {
         due("in one row: the larger of 2 and 1", x.survey(0, 1, 9, 1, 1, 3), 2);
         due("in one column it is", x.survey(0, 1, 1, 9, 1, 3), 2);
         x = withSurveys(new int[9], new int[] {-1, 0, -1, -1, -1, -1, 0, 0, -1});
-        due("a patch that turns", x.survey(0, 1, 3, 3, 1, 3), 6);
+        due("a patch that turns up", x.survey(0, 1, 3, 3, 1, 3), 6);
+        x = withSurveys(new int[9], new int[] {0, 0, -1, -1, -1, -1, -1, 0, 0});
+        due("a patch that turns back", x.survey(0, 1, 3, 3, 1, 3), 5);
+        due("it is one", x.survey(0, 1, 3, 3, 1, 2), 1);
         x = withSurveys(new int[9], new int[] {-1, 0, -1, -1, 0, -1, 0, 0, -1});
         due("the last may be the largest", x.survey(0, 1, 3, 3, 1, 3), 3);
         x = withSurveys(new int[9], new int[9]);

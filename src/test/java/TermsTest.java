@@ -192,6 +192,27 @@ public final class TermsTest extends BySentence {
         unchanged(BAD, 5, "count", new int[][] {{6}});
         unchangedByItems();
         unchangedByFindings();
+        laterAnswers();
+    }
+
+    /** What a refused call has read of a SHEET is not left over for the next one. */
+    private void laterAnswers() {
+        StoneWorks x = withItems(1, 99, 0, 0, 0, 100, 100, 100, 15, 15, 15);
+        fill(x, 1, 1, 100, 0, 0, 0, 100, 100, 100, 0, 2, 4);
+        due("SORTS that do not add up", x.shared(0, 0, NONE, 0), BAD);
+        due("then none is ALLOWED", x.shared(1, 0, NONE, 0), 100);
+        x = withItems(1, 200, 100, 200, 101);
+        fill(x, 1, 1, 9, 0);
+        due("a BAD second hour", x.storm(0, 0, 2, 1), BAD);
+        due("then one hour, HARM", x.storm(1, 0, 1, 0), 3);
+        due("then one hour, OVER", x.storm(1, 0, 1, 1), 0);
+        due("a BAD second hour, DESIGN", x.design(0, 0, 2, 0, 0, 0), BAD);
+        due("then CREST for one hour", x.design(1, 0, 1, 0, 0, 0), 1);
+        x = new StoneWorks();
+        due("THE ORDER by a crane far off", x.order(11, 30, 8), 68);
+        due("then by one that is near", x.order(0, 0, 8), 1);
+        fill(x, 0, 0, 20);
+        due("above the rows of this ORDER", x.planned(0, 30, 1, 0, 0, 1, 1, 0), NONE);
     }
 
     private void unchangedByItems() {
