@@ -2,8 +2,9 @@ import java.util.Random;
 
 /** Random runs of calls, held to the Model call by call; and SHARED held to all ways there are. */
 public final class ModelTest {
-    private static final int RUNS = 1500;
+    private static final int RUNS = 6000;
     private static final int CALLS = 512;
+    private static final int MOST_AT_ONCE = 140; // two SURVEYS of 30 places, all rows, one call more
     private static final int[] EDGES = {Integer.MIN_VALUE, -1000001, -1000000, -1, 0, 1, 2, 3, 4, 5, 6,
         7, 8, 9, 10, 11, 12, 13, 15, 16, 20, 21, 30, 31, 48, 49, 50, 51, 60, 61, 99, 100, 101, 127, 128,
         200, 201, 255, 256, 999, 1000, 1001, 32767, 32768, 59319, 60000, 60001, 65535, 1000000, 1000001,
@@ -37,7 +38,7 @@ public final class ModelTest {
     }
 
     private void run() {
-        while (calls < CALLS - 130 && !check.failed()) {
+        while (calls < CALLS - MOST_AT_ONCE && !check.failed()) {
             if (random.nextInt(12) == 0) {
                 fillSheet();
             }
@@ -148,11 +149,37 @@ public final class ModelTest {
     /** ITEMS that some call can take: else nearly all answers were BAD. */
     private void fillSheet() {
         int sheet = upTo(2);
-        switch (random.nextInt(4)) {
+        switch (random.nextInt(6)) {
             case 0 -> fillQuarry(sheet);
             case 1 -> fillWith(sheet, 2 + upTo(24), 20, 20);
             case 2 -> fillWith(sheet, 2 + 2 * upTo(20), 200, 100);
+            case 3 -> fillHarbour(sheet);
+            case 4 -> fillSurveys(sheet, upTo(2));
             default -> fillWith(sheet, 2 + upTo(48), 3, 3);
+        }
+    }
+
+    /** Places of one HARBOUR, which are at its far walls at times, or one beyond. */
+    private void fillHarbour(int sheet) {
+        int w = 1 + upTo(49);
+        int h = 1 + upTo(49);
+        int n = 1 + upTo(9);
+        fillWith(sheet, 2 * n, w, h);
+        call("calm", w, h, fit(0, 10), sheet, 0, n);
+        call("calm", w, h, fit(0, 10), sheet, fit(0, n), fit(1, n));
+        call("status");
+    }
+
+    /** Two SURVEYS close to one another, but for places as far apart as ITEMS can be. */
+    private void fillSurveys(int a, int b) {
+        int w = 1 + upTo(5);
+        int h = 1 + upTo(4);
+        int s = fit(1, 3);
+        fillWith(a, w * h, 4, 4);
+        fillWith(b, w * h, 4, 4);
+        call("set", random.nextBoolean() ? a : b, upTo(w * h), EDGES[random.nextInt(EDGES.length)]);
+        for (int what = 0; what < 4; what++) {
+            call("survey", a, b, w, h, s, what);
         }
     }
 
@@ -176,6 +203,9 @@ public final class ModelTest {
         int shift = upTo(2);
         call("sheet", sheet, upTo(2), 10 + shift);
         int[] items = quarryItems(random, 1 + upTo(99));
+        if (random.nextInt(3) == 0) {
+            spoil(items);
+        }
         for (int at = 0; at < 10; at++) {
             call("set", sheet, at + shift, items[at]);
         }
@@ -183,6 +213,21 @@ public final class ModelTest {
             call("shared", sheet, shift, pair / 3, pair % 3);
         }
         call("shared", sheet, shift, Model.NONE, 0);
+    }
+
+    /** A quarry just beside what is told, or one that is as told once more. */
+    private void spoil(int[] items) {
+        int more = random.nextBoolean() ? 1 : -1;
+        switch (random.nextInt(4)) {
+            case 0 -> items[upTo(3)] += more;
+            case 1 -> items[4 + upTo(2)] = fit(0, 100);
+            case 2 -> items[7 + upTo(2)] = more < 0 ? -1 : 16;
+            default -> {
+                int moved = items[0] + upTo(1);
+                items[0] -= moved;
+                items[1] += moved;
+            }
+        }
     }
 
     private static int[] quarryItems(Random random, int mostNeed) {
