@@ -908,6 +908,7 @@ public final class BoundariesTest extends BySentence {
             due("status " + (n + 1), findings[2 * n + 1], n + 1);
         }
         statusStays(x);
+        statusIsLeftByOthers();
         says("0: it had none,");
         statusAfter("sheet", 0, 2, 10);
         statusAfter("set", 0, 0, BAD);
@@ -944,28 +945,28 @@ public final class BoundariesTest extends BySentence {
             x.layer(1, 1);
         }
         due("FULL leaves it", x.status(), 5);
-        x.lay(0, 0);
-        x.lift(0, 0);
-        x.wall(0, 20);
-        x.relay(0, 1, 1000);
-        x.told(0, 0);
-        x.wide(0, 0);
-        x.volume(0);
-        x.reaches(0, 0, 0, 0);
-        x.order(0, 0, 1);
-        x.wave(1, 1, 1, 1, 1, 1, 1);
-        x.kind(0);
-        x.ask(0, 0);
-        x.trace(0);
-        x.count(0);
-        x.status();
-        due("calls without a SHEET leave it", x.status(), 5);
         fill(x, 2, 0, -1, -1);
         x.drop(5);
         x.storm(2, 0, 1, 0);
         due("a BAD ITEM leaves it", x.status(), 1);
         x.calm(1, 1, 1, 2, 0, 1);
         due("a BAD place leaves it", x.status(), 1);
+    }
+
+    private void statusIsLeftByOthers() {
+        String[] names = {"wall", "layer", "relay", "told", "wide", "volume", "lay", "lift", "reaches",
+            "order", "wave", "kind", "ask", "trace", "count", "status"};
+        for (String name : names) {
+            StoneWorks x = withLayers(1000, 100);
+            x.as(0, 4);
+            for (int v = -1; v <= 8; v++) {
+                Calls.answer(x, name, v, v, v, v, v, v, v);
+                due(name + " of numbers that are " + v + " leaves it", x.status(), 3);
+                Calls.answer(x, name, 0, v, 1, 1, 1, 1, 1);
+                due(name + " with a number that is " + v + " leaves it", x.status(), 3);
+            }
+            due("volume of all leaves it", x.volume(NONE) > 0 && x.status() == 3);
+        }
     }
 
     /** The call is found fault with in nothing, behind one that was. */

@@ -110,12 +110,56 @@ public final class TermsTest extends BySentence {
         due("BAD ahead of FULL", withLayers(1, 1, 1, 1, 1, 1).layer(11, 1), BAD);
         due("BAD ahead of a FINDING", new StoneWorks().sheet(8, 0, -1), BAD);
         due("the number", StoneWorks.BAD, BAD);
+        badAheadOfFindings();
         says("STATE (as told),");
         due("laid on nothing", new StoneWorks().lay(1, 0), STATE);
         due("the number", StoneWorks.STATE, STATE);
         says("FULL (as told),");
         due("a seventh LAYER", withLayers(1, 1, 1, 1, 1, 1).layer(1, 1), FULL);
         due("the number", StoneWorks.FULL, FULL);
+    }
+
+    private void badAheadOfFindings() {
+        badAhead("sheet", new int[] {0, 0, -1}, 8, 3, NONE);
+        badAhead("sheet", new int[] {0, 0, -1}, -1, -1, NONE);
+        badAhead("copy", new int[] {0, 0, 1, 0, 1}, 8, NONE, 8, NONE, NONE);
+        badAhead("copy", new int[] {0, 0, 1, 0, 1}, -1, NONE, -1, NONE, NONE);
+        badAhead("shared", new int[] {0, 0, 0, 0}, 8, NONE, 4, 3);
+        badAhead("shared", new int[] {0, 0, 0, 0}, -1, NONE, -1, -1);
+        badAhead("planned", new int[] {0, 0, 1, 0, 0, 1, 0, 0}, 12, 31, 9, 8, NONE, 21, 8, 12);
+        badAhead("planned", new int[] {0, 0, 1, 0, 0, 1, 0, 0}, -1, -1, 0, -1, NONE, 0, -1, -1);
+        badAhead("storm", new int[] {0, 0, 1, 0}, 8, NONE, 49, 2);
+        badAhead("storm", new int[] {0, 0, 1, 0}, -1, NONE, 0, -1);
+        badAhead("design", new int[] {0, 0, 1, 0, 0, 0}, 8, NONE, 49, 1000001, 1000001, 3);
+        badAhead("design", new int[] {0, 0, 1, 0, 0, 0}, -1, NONE, 0, -1, -1, -1);
+        badAhead("survey", new int[] {0, 1, 1, 1, 1, 0}, 8, 8, 11, 11, 1001, 4);
+        badAhead("survey", new int[] {0, 1, 1, 1, 1, 0}, -1, -1, 0, 0, 0, -1);
+        badAhead("calm", new int[] {1, 1, 0, 0, 0, 1}, 51, 51, 11, 8, NONE, 51);
+        badAhead("calm", new int[] {1, 1, 0, 0, 0, 1}, 0, 0, -1, -1, NONE, 0);
+    }
+
+    /** A call that has a FINDING is BAD with any one of these numbers; NONE: no number is, there. */
+    private void badAhead(String name, int[] a, int... bad) {
+        for (StoneWorks x : new StoneWorks[] {new StoneWorks(), withEmptySheets()}) {
+            due(name + " has a FINDING", Calls.answer(x, name, a) < -1000010);
+            int status = x.status();
+            for (int at = 0; at < a.length; at++) {
+                int[] changed = a.clone();
+                changed[at] = bad[at];
+                if (bad[at] != NONE) {
+                    String what = name + Arrays.toString(changed);
+                    due(what + " ahead of a FINDING", Calls.answer(x, name, changed), BAD);
+                    due(what + " leaves status()", x.status(), status);
+                }
+            }
+        }
+    }
+
+    private static StoneWorks withEmptySheets() {
+        StoneWorks x = new StoneWorks();
+        x.sheet(0, 0, 0);
+        x.sheet(1, 0, 0);
+        return x;
     }
 
     private void findings() {
